@@ -30,6 +30,26 @@ class Check {
 
     private static int checked = 0;
     private static int wrong = 0;
+    private static String sentence = "";
+    private static int sentences = 0;
+    private static int checkedBefore = 0;
+
+    /**
+     * Names the sentence of the document to which the answers looked at from here on
+     * belong. A sentence for which no answer is looked at has no test, which is wrong too.
+     */
+    static void sentence(String words) {
+        closeSentence();
+        sentence = words;
+        sentences++;
+        checkedBefore = checked;
+    }
+
+    private static void closeSentence() {
+        if (sentences > 0 && checked == checkedBefore) {
+            complain("no answer was looked at");
+        }
+    }
 
     static void due(String call, long got, long want) {
         checked++;
@@ -48,12 +68,14 @@ class Check {
     private static void complain(String line) {
         wrong++;
         if (wrong <= MOST_LINES) {
-            System.out.println(line);
+            System.out.println(sentence.isEmpty() ? line : "[" + sentence + "] " + line);
         }
     }
 
     static void finish() {
-        System.out.println(checked + " answers looked at, " + wrong + " wrong");
+        closeSentence();
+        String of = sentences > 0 ? " for " + sentences + " sentences" : "";
+        System.out.println(checked + " answers looked at" + of + ", " + wrong + " wrong");
         if (wrong != 0 || checked == 0) {
             System.exit(1);
         }
@@ -134,5 +156,50 @@ class Check {
         due("run(0, 64) over collects 2 and 3", x.run(0, 64), 6);
         update(x, 1, 11);
         return x;
+    }
+
+    /** A call on an object, with its arguments already chosen. */
+    interface Call {
+        int on(WaitFreeSnapshot x);
+    }
+
+    /** Makes an object and brings it to where a test wants it, twice alike if asked twice. */
+    interface Making {
+        WaitFreeSnapshot make();
+    }
+
+    /**
+     * The call gives this answer, and the object is then as its twin, on which the call
+     * was not made: at once, and in all that is done with both afterwards.
+     */
+    static void changesNothing(String name, int n, Making making, Call call, int want) {
+        WaitFreeSnapshot x = making.make();
+        WaitFreeSnapshot twin = making.make();
+        due(name, call.on(x), want);
+        due(name + " once more", call.on(x), want);
+        goOnAlike(name, x, twin, n);
+    }
+
+    /** Two objects tell the same, and go on telling the same under the same calls. */
+    static void goOnAlike(String after, WaitFreeSnapshot x, WaitFreeSnapshot twin, int n) {
+        same("after " + after + " the object", picture(x, n), picture(twin, n));
+        int list = 0x5EED;
+        for (int round = 0; round < 12; round++) {
+            list = list * 1664525 + 1013904223;
+            int p = round % n;
+            int near = list & 0x75757575;
+            due("schedule after " + after, x.schedule(near), twin.schedule(near));
+            due("run after " + after, x.run(p, 3), twin.run(p, 3));
+            due("beginUpdate after " + after, x.beginUpdate(p, list), twin.beginUpdate(p, list));
+            same("some calls after " + after + " the object", picture(x, n), picture(twin, n));
+        }
+        for (int i = 0; i < 130 + n; i++) {
+            int p = i % n;
+            due("beginScan after " + after, x.beginScan(p), twin.beginScan(p));
+            due("run after " + after, x.run(p, 64), twin.run(p, 64));
+            due("beginUpdate after " + after, x.beginUpdate(p, i), twin.beginUpdate(p, i));
+            due("run after " + after, x.run(p, 64), twin.run(p, 64));
+        }
+        same("many calls after " + after + " the object", picture(x, n), picture(twin, n));
     }
 }
