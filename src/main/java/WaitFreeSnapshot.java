@@ -272,6 +272,8 @@ public final class WaitFreeSnapshot {
         }
     }
 
+    // There is a row left: a write is made once by each update, and its update is
+    // among the MOST_LIMIT begun at most.
     private void write(int p) {
         int before = cell(writes, 0);
         int after = before + MOST_PROCESSES;
@@ -299,6 +301,8 @@ public final class WaitFreeSnapshot {
         }
     }
 
+    // From collect 2 on the read of the collect before stands in readVersion, so the
+    // version looked up there is never NONE.
     private void noteRead(int p, int j) {
         int place = pair(p, j);
         int found = versionCount[cell(writes, j)];

@@ -45,7 +45,8 @@ import javax.tools.ToolProvider;
 /**
  * Those rules of LANGUAGE.md that the source shows and the compiled class does not; for
  * the others see FaceAndLanguage. Stricter than the rules here and there, where the class
- * does not need the freedom: each array field is final, each loop counts up to a bound.
+ * does not need the freedom: each array field is final, each loop counts up to a bound,
+ * nothing is divided.
  */
 final class LanguageRules extends Check {
     private static final String SOURCE = "src/main/java/WaitFreeSnapshot.java";
@@ -57,6 +58,9 @@ final class LanguageRules extends Check {
             Kind.ASSERT, Kind.INSTANCE_OF, Kind.LAMBDA_EXPRESSION, Kind.MEMBER_REFERENCE);
     private static final Set<Kind> FOREIGN = EnumSet.of(Kind.STRING_LITERAL, Kind.FLOAT_LITERAL, Kind.DOUBLE_LITERAL,
             Kind.NULL_LITERAL, Kind.NEW_CLASS, Kind.PARAMETERIZED_TYPE, Kind.ANNOTATION);
+
+    private static final Set<Kind> DIVIDING = EnumSet.of(Kind.DIVIDE, Kind.REMAINDER, Kind.DIVIDE_ASSIGNMENT,
+            Kind.REMAINDER_ASSIGNMENT);
 
     private final Map<Integer, List<String>> offences = new TreeMap<>();
     private final Map<String, Set<String>> calls = new HashMap<>();
@@ -92,6 +96,7 @@ final class LanguageRules extends Check {
         report(4, "arrays are made once, at the start, with a constant length");
         report(5, "static fields are constants, no initialiser blocks");
         report(6, "no throw, try, synchronized, assert, instanceof, lambda, method reference or cast of a reference");
+        report(7, "nothing is divided, so no divisor can be 0 (for the indexes see InsideIndexes)");
         report(8, "no recursion, and every loop counts up to a bound");
         report(10, "few parameters, no call inside the arguments of another, short methods, calls at most six deep");
     }
@@ -181,6 +186,7 @@ final class LanguageRules extends Check {
             if (tree != null) {
                 require(!FORBIDDEN.contains(tree.getKind()), 6, tree, "a " + tree.getKind());
                 require(!FOREIGN.contains(tree.getKind()), 2, tree, "a " + tree.getKind());
+                require(!DIVIDING.contains(tree.getKind()), 7, tree, "a " + tree.getKind());
                 require(tree.getKind() != Kind.ENHANCED_FOR_LOOP, 8, tree, "a loop without a counter");
             }
             return super.scan(tree, nothing);
